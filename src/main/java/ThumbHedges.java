@@ -1471,6 +1471,7 @@ public final class ThumbHedges {
         }
 
         void beginLaw(int law) {
+            addClause(law, 0, 0);
             if (law == FROSTS) {
                 hasFrosts = true;
                 frostsFrom = size;
@@ -1577,16 +1578,14 @@ public final class ThumbHedges {
                 return refuse(FAULT_CLAUSES);
             }
             advance();
-            return (isLaw ? lawOf(kind) : deed(kind)) && take(SEMICOLON);
-        }
-
-        private boolean lawOf(int kind) {
+            if (!isLaw) {
+                return deed(kind) && take(SEMICOLON);
+            }
             law = kind;
-            draft.addClause(kind, 0, 0);
             draft.beginLaw(kind);
             boolean whole = sum();
             draft.endLaw(kind);
-            return whole;
+            return whole && take(SEMICOLON);
         }
 
         private boolean deed(int kind) {
