@@ -75,6 +75,7 @@ public final class PromisesTest {
         due("2 above", x.hand(FULL + 1, 0), -1);
         due("2 south above", x.hand(0, FULL + 1), -1);
         due("2 south below", x.hand(0, MIN), -1);
+        due("2 south -1", x.hand(0, -1), -1);
         due("2 none told", x.about(0), 0);
         due("2 empty", x.hand(0, 0), 0);
         due("2 full", x.hand(FULL, FULL), 1);
@@ -135,6 +136,21 @@ public final class PromisesTest {
         due("6 six", x.end(6), 6);
         due("7 cut 0;", x.text(), 0);
         due("7 is played", x.played(0), 0);
+        whatLiesBehindTheEnd();
+    }
+
+    /** Bytes that end(n) takes from the tape are not read, whatever they were. */
+    private static void whatLiesBehindTheEnd() {
+        String[] tapes = {"goes 1   ;           ", "goes 111;           ", "goes aroundd;       ", "goes if 1<=2        "};
+        int[] ends = {6, 6, 11, 10};
+        for (int i = 0; i < 4; i++) {
+            ThumbHedges x = new ThumbHedges();
+            Check.tape(x, tapes[i]);
+            x.end(ends[i]);
+            due("7 has a fault", x.text(), -1);
+            due("8 the end can't stand there", x.fault(0), 1);
+            due("8 at the length", x.fault(1), ends[i]);
+        }
     }
 
     /** Promises 7, 8, 9. */
@@ -215,6 +231,42 @@ public final class PromisesTest {
         Check.fault("cow -1 way 1;", 1, 4);
         Check.fault("go 1 way 1;", 1, 5);
         Check.fault("press 1 by 1;", 1, 8);
+        Check.fault("goes ?;", 1, 5);
+        Check.fault("cut ?;", 1, 4);
+        Check.fault("goesz 1;", 1, 0);
+        Check.fault("goesa 1;", 1, 0);
+        Check.fault("goesA 1;", 1, 0);
+        Check.fault("goesZ 1;", 1, 0);
+        Check.fault("goes{1;", 1, 4);
+        Check.fault("goes`1;", 1, 4);
+        Check.fault("goes[1;", 1, 4);
+        Check.fault("goes@1;", 1, 4);
+        Check.fault("goes 1:;", 1, 6);
+        Check.fault("goes if 1+2 then 1 else 2 end;", 1, 12);
+        Check.fault("goes if 1;2 then 1 else 2 end;", 1, 9);
+        Check.fault("goes if number<1 then 1 else 2 end;", 5, 8);
+        Check.fault("goes if 1<number then 1 else 2 end;", 5, 10);
+        Check.fault("goes if 1<2 or number<1 then 1 else 2 end;", 5, 15);
+        Check.fault("goes if 1<2 and number<1 then 1 else 2 end;", 5, 16);
+        Check.fault("goes if 1<2 then number else 2 end;", 5, 17);
+        Check.fault("goes if 1<2 then 1 else number end;", 5, 24);
+        Check.fault("goes 1+number;", 5, 7);
+        Check.fault("goes 1*number;", 5, 7);
+        Check.fault("goes far number of 1;", 5, 9);
+        Check.fault("goes far 1 of number;", 5, 14);
+        Check.fault("goes hedge number;", 5, 11);
+        Check.fault("goes (number);", 5, 6);
+        Check.fault("goes -number;", 5, 6);
+        Check.fault("cow 25 way 1;", 2, 4);
+        Check.fault("cow 1 way 4;", 2, 10);
+        Check.fault("gate 25;", 2, 5);
+        Check.fault("plant 40;", 2, 6);
+        Check.fault("cut 40;", 2, 4);
+        Check.fault("press 4 turn 1;", 2, 6);
+        Check.fault("press 0 turn 8;", 2, 13);
+        Check.fault("go 4 by 1;", 2, 3);
+        Check.fault("go 0 by 5;", 2, 8);
+        Check.fault("cow 0 way 0;gate 0;plant 0;cut 0;press 0 turn 0;go 0 by 0;", 0, -1);
         Check.fault("hour 0;", 2, 5);
         Check.fault("hour 61;", 2, 5);
         Check.fault("cut 99999999999999999999;", 2, 4);
@@ -226,8 +278,40 @@ public final class PromisesTest {
         Check.fault("frosts 2 who;", 1, 9);
         Check.fault("frosts 1;goes 1;frosts 2;", 4, 16);
         Check.fault("frosts 1;frosts;", 4, 9);
+        manyReadings();
         nestings();
         manyClauses();
+    }
+
+    /** What was read ahead leaves nothing behind, however long it was. */
+    private static void manyReadings() {
+        ThumbHedges x = new ThumbHedges();
+        x.cow(7, 3);
+        for (int i = 0; i < 12; i++) {
+            due("7 a fault", Check.text(x, "goes " + "1+".repeat(60) + ";"), -1);
+            due("7 a fault", Check.text(x, "frosts 1;goes (((((((((1"), -1);
+        }
+        due("7 long", Check.text(x, "cow 1 way 2;plant 3;cut 3;plant 4;"), 0);
+        x.back();
+        x.cow(7, 3);
+        due("7 whole", Check.text(x, "goes who+cell*way;"), 0);
+        due("7 whole", Check.text(x, "cow 12 way 3;"), 1);
+        x.by(0);
+        due("18 goes", x.of(0, 2), 21);
+        due("20 without", x.hedge(0, 3), 3);
+        due("15 one clause alone", x.played(1), -1);
+        due("15 nothing else", x.is(4), 0);
+        due("15 nothing else", x.about(1), 2);
+        due("15 its cell", x.of(1, 0), 12);
+        due("15 its way", x.of(1, 1), 3);
+        due("7 both", Check.text(x, "frosts number-3;goes cell+1;"), 2);
+        due("7 both", Check.text(x, "goes cell+2;frosts number-4;"), 3);
+        x.by(2);
+        due("18 goes", x.of(1, 2), 13);
+        due("20 frosts", x.hedge(9, 3), 6);
+        x.by(3);
+        due("18 goes", x.of(1, 2), 14);
+        due("20 frosts", x.hedge(9, 3), 5);
     }
 
     private static void nestings() {
@@ -365,6 +449,20 @@ public final class PromisesTest {
         due("14 60", x.hour(60), 0);
         due("14 hours", x.is(0), 65);
         due("14 steps", x.about(4), 30);
+        whetherTheyGo();
+    }
+
+    private static void whetherTheyGo() {
+        ThumbHedges x = new ThumbHedges();
+        Check.text(x, "goes who-2;");
+        x.by(0);
+        for (int i = 0; i < 5; i++) {
+            x.cow(12, 0);
+        }
+        x.hour(1);
+        for (int i = 0; i < 5; i++) {
+            due("14 goes says " + (i - 2), x.of(i, 0), i > 2 ? 13 : 12);
+        }
     }
 
     private static void cowsComeHome() {
@@ -394,6 +492,10 @@ public final class PromisesTest {
         due("48 others", x.ledger(2), -2);
         due("48 others", x.ledger(-1), -2);
         due("14 no more", x.hour(2), 0);
+        due("23 no line more", x.book(-1, 0), 2);
+        due("14 stays home", x.of(0, 0), -1);
+        due("14 its way", x.of(0, 1), 1);
+        due("14 its way", x.of(1, 1), 3);
         due("18 goes, home", x.of(0, 2), -100);
         due("17 undo", x.undo(), 2);
         due("17 undo", x.undo(), 1);
@@ -456,8 +558,15 @@ public final class PromisesTest {
         }
         int first = x.book(0, 0);
         int eldest = x.book(0, 2);
+        int[] lines = new int[60];
+        for (int i = 0; i < 60; i++) {
+            lines[i] = x.book(i / 2, i % 2 * 2);
+        }
         x.press(0, 0);
         x.hour(1);
+        for (int i = 0; i < 58; i++) {
+            due("23 the others move up", x.book(i / 2, i % 2 * 2), lines[i + 2]);
+        }
         due("23 the eldest is gone", x.book(0, 0) > first, true);
         due("23 the latest", x.book(29, 0), 90);
         x.undo();
@@ -547,6 +656,9 @@ public final class PromisesTest {
         due("16 not pressed", x.is(4), 1);
         due("16 seed 4: 339 is 3 of 7, no cows", x.years(4, 1), 0);
         x.hand(2, 0);
+        due("16 one hand by turn 7", x.years(0, 1), 0);
+        due("16 pressed", x.is(3), x.turned(0, 7, true));
+        due("16 pressed", x.is(2), 0);
         x.hand(4, 0);
         x.hand(8, 0);
         due("16 hand 331 mod 3 by turn 47 mod 8", x.years(0, 1), 0);
@@ -900,6 +1012,43 @@ public final class PromisesTest {
         due("33 no neck", x.necks(), 0);
         due("34 both ways round", x.paths(0, 6), 2);
         due("47 lowest", x.thickest(), 7);
+        askedAtOnce();
+    }
+
+    /** Each right behind a change, so that what was asked ahead can't help. */
+    private static void askedAtOnce() {
+        ThumbHedges x = new ThumbHedges();
+        due("47 none", x.thickest(), 0);
+        x.plant(0);
+        due("47 two alike", x.thickest(), 0);
+        due("33 one", x.necks(), 32);
+        x.undo();
+        due("33 none", x.necks(), 0);
+        x.plant(20);
+        due("29 wide", x.wide(), 8);
+        x.plant(0);
+        x.plant(19);
+        x.plant(39);
+        due("29 without two corners", x.wide(), 8);
+        due("31 rings", x.rings(), 40 - 4 - 25 + 3);
+        x.plant(1);
+        due("47 two around", x.thickest(), 0);
+        x.plant(21);
+        due("47 three around", x.thickest(), 1);
+        due("28 farthest", x.farthest(24), 24);
+        due("30 regions", x.regions(false), 4);
+        x.cut(1);
+        due("28 farthest", x.farthest(1), 20);
+        x.cut(20);
+        due("25 miles", x.miles(0, 5), 1);
+        x.plant(20);
+        due("27 cuts", x.cuts(0, 5), 1);
+        x.cut(20);
+        due("26 way", x.way(0, 5, 0), 2);
+        x.plant(20);
+        due("34 paths", x.paths(0, 5), 0);
+        x.cut(20);
+        due("19 region", x.cell(0, 3), 24);
     }
 
     /** Promise 35. */
@@ -1001,6 +1150,10 @@ public final class PromisesTest {
         x.press(1, 0);
         due("37 columns", x.gates(24, true), 4);
         due("37 the lowest", x.gates(24, false), 1 | 2 | 4 | 8);
+        x.hand(FULL, 0);
+        x.press(2, 0);
+        due("37 five columns", x.gates(24, true), -1);
+        due("37 five columns", x.gates(24, false), -1);
     }
 
     /** Promises 38 to 43. */
@@ -1049,6 +1202,15 @@ public final class PromisesTest {
         due("40 1, the lowest", x.owner(1), 0);
         x.press(3, 0);
         due("40 full", x.owner(0), 3);
+        ThumbHedges y = new ThumbHedges();
+        y.hand(FULL, FULL);
+        due("40 39", y.owner(39), -1);
+        due("40 40", y.owner(40), 0);
+        y.hand(FULL, FULL - 1);
+        due("40 the least unlike", y.owner(40), 1);
+        y.hand(1 << 7, 0);
+        y.press(2, 1);
+        due("39 the first turn", y.unlike(2, true), 1);
         selves();
     }
 
@@ -1078,6 +1240,10 @@ public final class PromisesTest {
         due("44 none such", x.look(1), -1);
         x.press(0, 3);
         due("44 one", x.look(0), -1);
+        x.hand(1 | 1 << 5, 0);
+        due("44 two", x.look(0), 0);
+        x.back();
+        x.hand(1 | 1 << 5, 0);
         due("44 all", x.look(40), 0);
         x.hand(0, 0);
         x.press(1, 0);
@@ -1148,6 +1314,9 @@ public final class PromisesTest {
         due("45 none any more", x.said(-1, 0), 0);
         due("45 none", x.about(5), 0);
         due("46 all", x.whose(), 15);
+        due("45 frosts 0", x.said(0, 0), 1);
+        due("46 the fourth", x.whose(), 8);
+        x.said(-1, 0);
         due("45 frosts 10", x.said(39, 10), 1);
         due("46 the fourth", x.whose(), 8);
         due("45 no matter what is said of none", x.said(-1, 77), 0);
@@ -1201,5 +1370,58 @@ public final class PromisesTest {
         due("50 it isn't home", x.of(1, 0), 7);
         due("50 a new second text", Check.text(x, "cut 39;"), 1);
         due("50 it is that one", x.played(1), 0);
+        imagesOfHome();
+        imagesOfSteps();
+    }
+
+    private static void imagesOfHome() {
+        ThumbHedges x = new ThumbHedges();
+        Check.text(x, "frosts 4;");
+        x.cow(1, 0);
+        x.cow(12, 0);
+        x.gate(0, true);
+        x.go(0, 3);
+        x.said(7, 4);
+        x.image();
+        x.undo();
+        x.said(-1, 0);
+        x.said(8, 5);
+        x.gate(7, true);
+        x.gate(13, true);
+        due("50 not home", x.of(0, 0), 1);
+        due("50 back", x.back(), 0);
+        due("50 home again", x.of(0, 0), -1);
+        due("50 what was said is again", x.whose(), 1);
+        x.cow(4, 1);
+        x.cow(3, 1);
+        x.gate(9, true);
+        x.go(2, 2);
+        due("50 the third is home", x.of(2, 0), -1);
+        x.back();
+        due("50 a new third", x.cow(4, 1), 2);
+        due("50 isn't home", x.of(2, 0), 4);
+        due("17 undo", x.undo(), 0);
+        due("17 the first isn't home", x.of(0, 0), 1);
+        due("17 the third is as told", x.of(2, 0), 4);
+    }
+
+    /** All 30 STEPS of an image can be taken back, though others came since. */
+    private static void imagesOfSteps() {
+        ThumbHedges x = new ThumbHedges();
+        for (int i = 0; i < 37; i++) {
+            x.plant(i);
+        }
+        x.image();
+        for (int i = 0; i < 37; i++) {
+            x.cut(i);
+        }
+        due("50 back", x.back(), 0);
+        due("50 all there", x.is(4), 37);
+        for (int i = 29; i >= 0; i--) {
+            due("17 undo", x.undo(), i);
+            due("17 one less", x.is(4), 7 + i);
+        }
+        due("17 none", x.undo(), -1);
+        due("17 the first seven stay", x.is(2), 127);
     }
 }
