@@ -965,6 +965,12 @@ public final class PromisesTest {
         x.hand(FULL, FULL);
         x.press(0, 0);
         due("27 all", x.cuts(0, 24), 8);
+        for (int i = 0; i < 625; i++) {
+            int a = i / 25;
+            int b = i % 25;
+            int apart = Math.abs(a / 5 - b / 5) + Math.abs(a % 5 - b % 5);
+            due("27 cuts(" + a + ", " + b + ") of all", x.cuts(a, b), apart);
+        }
         due("29 none", x.wide(), 0);
         due("28 itself", x.farthest(24), 24);
         due("34 none", x.paths(0, 1), 0);
@@ -1376,7 +1382,7 @@ public final class PromisesTest {
 
     private static void imagesOfHome() {
         ThumbHedges x = new ThumbHedges();
-        Check.text(x, "frosts 4;");
+        Check.text(x, "frosts number-3;");
         x.cow(1, 0);
         x.cow(12, 0);
         x.gate(0, true);
