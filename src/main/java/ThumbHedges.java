@@ -1240,7 +1240,7 @@ public final class ThumbHedges {
         /** CELLS from which the WAY to the east is open, and those for the south. */
         private int toEast;
         private int toSouth;
-        /** What each CELL of the rim has by so many MILES, for fewestGates. */
+        /** The CELLS that each one has by so many MILES, for fewestGates. */
         private final int[] near = new int[CELLS];
 
         void layOut(long hedges) {
@@ -1262,30 +1262,33 @@ public final class ThumbHedges {
             return set | (set & NOT_EASTMOST) << 1 | set >> 1 & NOT_EASTMOST | set << SIDE & ALL_CELLS | set >> SIDE;
         }
 
+        /** All that is so many MILES at most from the set. */
         int within(int set, int miles) {
-            int grown = set;
+            int reached = set;
             for (int i = 0; i < miles && i < CELLS; i++) {
-                grown = grown(grown);
+                reached = grown(reached);
             }
-            return grown;
+            return reached;
         }
 
+        /** All that can be come to from the set without leaving what is allowed. */
         private int flooded(int set, int allowed) {
-            int grown = set;
+            int reached = set;
             for (int i = 0; i < CELLS; i++) {
-                int wider = grown(grown) & allowed;
-                if (wider == grown) {
-                    return grown;
+                int wider = grown(reached) & allowed;
+                if (wider == reached) {
+                    return reached;
                 }
-                grown = wider;
+                reached = wider;
             }
-            return grown;
+            return reached;
         }
 
         int regionOf(int cell) {
             return flooded(1 << cell, ALL_CELLS);
         }
 
+        /** The fewest steps to one CELL of the goal; NONE: no way. */
         int milesTo(int from, int goal) {
             int set = 1 << from;
             for (int miles = 0; miles < CELLS; miles++) {
@@ -1309,6 +1312,7 @@ public final class ThumbHedges {
             return NONE;
         }
 
+        /** Each round goes over one HEDGE more, and then as far as one can without. */
         int cutsTo(int from, int goal) {
             int set = regionOf(from);
             for (int cuts = 0; cuts < CELLS; cuts++) {
