@@ -113,11 +113,13 @@ final class Edge {
         for (int i = 0; i < 5; i++) {
             all.add(x.is(i));
         }
-        for (int i = 0; i < 3 * x.about(1); i++) {
-            all.add(x.of(i / 3, i % 3));
-        }
-        for (int i = 0; i < 2 * x.about(0); i++) {
+        int hands = all.get(0);
+        for (int i = 0; i < 2 * hands; i++) {
             all.add(x.turned(i / 2, 0, i % 2 == 1));
+        }
+        int cows = all.get(1);
+        for (int i = 0; i < 3 * cows; i++) {
+            all.add(x.of(i / 3, i % 3));
         }
         int lines = x.book(-1, 0);
         all.add(lines);

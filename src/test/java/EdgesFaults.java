@@ -101,6 +101,30 @@ final class EdgesFaults {
         }
     }
 
+    /** A NUMBER above 9999, and a NAME of the other law, instead of each TOKEN: where none can stand it is 1. */
+    static void promise08Fault2And5AtEachToken() {
+        for (String text : WHOLE) {
+            boolean law = text.startsWith("goes") || text.startsWith("frosts");
+            String foreign = text.startsWith("goes") ? "number" : "who";
+            String before = ";";
+            for (int at = 0; at < text.length(); at = text.indexOf(' ', at) + 1) {
+                String token = text.substring(at, text.indexOf(' ', at));
+                String rest = text.substring(text.indexOf(' ', at));
+                boolean number = Character.isDigit(token.charAt(0));
+                boolean one = law && (number || beginsOne(before, token));
+                fault(number || one ? 2 : 1, at, text.substring(0, at) + "10000" + rest);
+                fault(one ? 5 : 1, at, text.substring(0, at) + foreign + rest);
+                before = token;
+            }
+        }
+    }
+
+    /** A ONE, or an ASK that could begin with one. */
+    private static boolean beginsOne(String before, String token) {
+        boolean minus = token.equals("-") && before.matches("then|else|far|of|[-+*/(]");
+        return minus || token.matches("hour|cell|around|all|number|who|way|far|hedge|if|not|[(]");
+    }
+
     static void promise08Fault1Clauses() {
         fault(1, 0, ";", "1", "(", "way 1;", "cell 1;", "around;", "number 1;", "turn 1;", "by 1;", "if", "end", "not");
         fault(1, 7, "goes 1;;", "goes 1;1", "goes 1;)", "goes 1;way", "goes 1;end;");
@@ -118,6 +142,8 @@ final class EdgesFaults {
         fault(1, 10, "goes if (1<2) then 3 else 4 end;");
         fault(1, 11, "goes if 1<2<3 then 3 else 4 end;", "goes if 1<2=3 then 3 else 4 end;");
         fault(1, 10, "goes if 1 then 3 else 4 end;", "goes if 1 and 2<3 then 3 else 4 end;");
+        fault(1, 10, "goes if 1 ; 2 then 3 else 4 end;", "goes if 1 frosts 2 then 3 else 4 end;");
+        fault(1, 10, "goes if 1 ) 2 then 3 else 4 end;", "goes if 1 2 then 3 else 4 end;");
         fault(1, 12, "goes if 1<2 else 3 then 4 end;", "goes if 1<2 end;", "goes if 1<2 not 1<2 then 3 else 4 end;");
         fault(1, 19, "goes if 1<2 then 3 end;", "goes if 1<2 then 3 then 4 end;");
         fault(1, 26, "goes if 1<2 then 3 else 4 ;");

@@ -278,21 +278,27 @@ final class EdgesImage {
 
     /** Thirty STEPS and thirty lines are in it, all of them. */
     static void promise50ThirtySteps() {
-        ThumbHedges x = Lands.full();
-        ThumbHedges y = Lands.full();
-        x.hour(60);
-        x.undo();
-        x.years(3, 40);
-        due("50 back", x.back(), 90);
-        for (int i = 29; i >= 0; i--) {
-            due("50 undo", x.undo(), i);
-            y.undo();
-            due("50 all is so again", Edge.whatIsKept(x).equals(Edge.whatIsKept(y)) ? 1 : 0, 1);
+        for (int n : new int[] {1, 29, 30, 31, 47}) {
+            ThumbHedges x = Lands.full();
+            ThumbHedges y = Lands.full();
+            x.hour(n);
+            x.undo();
+            x.years(3, 40);
+            due("50 back", x.back(), 90);
+            for (int i = 29; i >= 0; i--) {
+                due("50 undo", x.undo(), i);
+                y.undo();
+                for (int what = 0; what < 4; what++) {
+                    due("50 is(" + what + ") again", x.is(what), y.is(what));
+                }
+                due("50 lines again", x.book(-1, 0), y.book(-1, 0));
+                due("50 the latest line again", x.book(28, 2), y.book(28, 2));
+            }
+            due("50 none", x.undo(), -1);
+            due("50 back again", x.back(), 90);
+            due("50 thirty again", x.about(4), 30);
+            due("50 thirty lines", x.book(-1, 0), 30);
         }
-        due("50 none", x.undo(), -1);
-        due("50 back again", x.back(), 90);
-        due("50 thirty again", x.about(4), 30);
-        due("50 thirty lines", x.book(-1, 0), 30);
     }
 
     /** "-2 for others." */

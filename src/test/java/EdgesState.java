@@ -128,23 +128,31 @@ final class EdgesState {
         Edge.refused("21 beyond the rim", Lands::bare, x -> x.between(24, 29), -1);
         Edge.refused("21 beyond the rim", Lands::bare, x -> x.between(0, -5), -1);
         Edge.refused("21 NONE and the first", Lands::bare, x -> x.between(-1, 0), -1);
+        for (int a = -10; a < 35; a++) {
+            ThumbHedges x = new ThumbHedges();
+            for (int b = -10; b < 35; b++) {
+                boolean cells = a >= 0 && a < 25 && b >= 0 && b < 25;
+                due("21 between(" + a + ", " + b + ")", cells ? -1 : x.between(a, b), -1);
+            }
+        }
     }
 
     /** All pairs: a row's end is not beside the next row's begin, a CELL not beside itself; "(there or not)". */
     static void promise21AllPairs() {
-        for (ThumbHedges x : new ThumbHedges[] {new ThumbHedges(), Lands.walled()}) {
-            int found = 0;
-            for (int i = 0; i < 625; i++) {
-                int a = i / 25;
-                int b = i % 25;
-                int apart = Math.abs(a / 5 - b / 5) + Math.abs(a % 5 - b % 5);
+        int found = 0;
+        for (int a = 0; a < 25; a++) {
+            ThumbHedges bare = new ThumbHedges();
+            ThumbHedges walled = Lands.walled();
+            for (int b = 0; b < 25; b++) {
+                boolean beside = Math.abs(a / 5 - b / 5) + Math.abs(a % 5 - b % 5) == 1;
                 int low = Math.min(a, b);
                 int hedge = Math.abs(a - b) == 5 ? 20 + low : 4 * (low / 5) + low % 5;
-                due("21 between(" + a + ", " + b + ")", x.between(a, b), apart == 1 ? hedge : -1);
-                found += apart == 1 ? 1 : 0;
+                due("21 between(" + a + ", " + b + ")", bare.between(a, b), beside ? hedge : -1);
+                due("21 between(" + a + ", " + b + ") of walls", walled.between(a, b), beside ? hedge : -1);
+                found += beside ? 1 : 0;
             }
-            due("21 each HEDGE from both sides", found, 80);
         }
+        due("21 each HEDGE from both sides", found, 80);
     }
 
     /** "-2 for others." */

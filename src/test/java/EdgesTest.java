@@ -10,7 +10,7 @@ import java.util.TreeMap;
 public final class EdgesTest {
     private static final Class<?>[] TESTS = {EdgesTold.class, EdgesTexts.class, EdgesFaults.class, EdgesLaws.class,
         EdgesDone.class, EdgesHours.class, EdgesYears.class, EdgesSteps.class, EdgesState.class, EdgesWays.class, EdgesShapes.class,
-        EdgesHands.class, EdgesImage.class};
+        EdgesHands.class, EdgesImage.class, EdgesAsked.class};
     private static final int PROMISES = 51;
 
     public static void main(String[] args) throws ReflectiveOperationException {

@@ -90,6 +90,21 @@ final class EdgesTexts {
         due("6 whole", x.text(), 2);
     }
 
+    /** Nor is it read, whatever it was: digits, letters, signs. */
+    static void promise06WhatLiesBehind() {
+        String[] tapes = {"goes 1   ;", "goes 111;", "goes aroundd;", "goes if 1<=2", "goes if 1>=2", "goes hourr", "goes 1;?"};
+        int[] ends = {6, 6, 11, 10, 10, 9, 7};
+        for (int i = 0; i < tapes.length; i++) {
+            ThumbHedges x = new ThumbHedges();
+            Check.tape(x, tapes[i]);
+            x.end(ends[i]);
+            boolean whole = tapes[i].charAt(ends[i] - 1) == ';';
+            due("6 text of '" + tapes[i] + "'", x.text(), whole ? 0 : -1);
+            due("6 its FAULT", x.fault(0), whole ? 0 : 1);
+            due("6 at the length", x.fault(1), whole ? -1 : ends[i]);
+        }
+    }
+
     /** The tape is empty: a TEXT without CLAUSES. */
     static void promise07EmptyTape() {
         ThumbHedges x = new ThumbHedges();
@@ -114,6 +129,52 @@ final class EdgesTexts {
         Check.fault("goes 1;" + blanks.substring(4) + "goes", 4, 296);
         Check.fault("goes " + "1+".repeat(147) + ";", 1, 299);
         Check.fault("goes " + "1+".repeat(146) + "11;", 0, -1);
+    }
+
+    /** A TOKEN that ends with the tape, at 300: a word, the begin of one, a NUMBER, a sign. */
+    static void promise07TokensAtTheEnd() {
+        String[] ends = {"go", "goes", "g", "frost", "goes 1", "cow 24", "goes if 1<", "goes if 1>", "goes if 1<=", "goes (",
+            "goes hour", "goes a", "goes hou", "goes if 1<2 t"};
+        int[] faults = {300, 300, 299, 295, 300, 300, 300, 300, 300, 300, 300, 299, 297, 299};
+        for (int i = 0; i < ends.length; i++) {
+            Check.fault(BLANK.repeat(300 - ends[i].length()) + ends[i], 1, faults[i]);
+        }
+        Check.fault(BLANK.repeat(289) + "goes 123456", 2, 294);
+    }
+
+    /** What was read ahead leaves nothing behind, with a FAULT or without, however long it was. */
+    static void promise07NothingIsLeft() {
+        ThumbHedges x = new ThumbHedges();
+        x.cow(12, 3);
+        for (int i = 0; i < 8; i++) {
+            due("7 a FAULT at the end", Check.text(x, "goes " + "1+".repeat(140) + "?"), -1);
+            due("7 a FAULT within", Check.text(x, "frosts 1;goes (((if 1<2 then 1 else (("), -1);
+            x.back();
+            x.cow(12, 3);
+            due("7 whole", Check.text(x, "goes 1" + "+1".repeat(40) + ";plant 1;plant 2;plant 3;"), 0);
+            x.by(0);
+            due("7 what it says", x.of(0, 2), 41);
+            due("7 whole", Check.text(x, "frosts 8;"), 1);
+            x.by(1);
+            due("7 what it says", x.hedge(0, 3), 8);
+            due("7 no other law", x.of(0, 2), 1);
+            due("7 no deeds", x.played(1), -1);
+            due("7 none PLANTED", x.is(4), 0);
+        }
+    }
+
+    /** Both laws in one TEXT, the one ahead of the other or behind it, with deeds between. */
+    static void promise07BothLaws() {
+        String[] texts = {"frosts number-3;goes cell+1;", "goes cell+1;frosts number-3;",
+            "plant 1;goes cell+1;plant 2;frosts number-3;plant 3;", "frosts number-3;hour 1;goes cell+1;"};
+        for (String text : texts) {
+            ThumbHedges x = new ThumbHedges();
+            x.cow(12, 3);
+            due("7 whole", Check.text(x, text), 0);
+            x.by(0);
+            due("7 goes", x.of(0, 2), 13);
+            due("7 frosts", x.hedge(9, 3), 6);
+        }
     }
 
     /** "(empty then)", with a FAULT or without. */

@@ -22,15 +22,15 @@ final class EdgesWays {
 
     /** None at all are 0 MILES, the most are 24; without a way there are none. */
     static void promise25AllPairs() {
-        ThumbHedges bare = new ThumbHedges();
-        ThumbHedges walled = Lands.walled();
-        ThumbHedges snake = Lands.snake();
-        for (int i = 0; i < 625; i++) {
-            int a = i / 25;
-            int b = i % 25;
-            due("25 open land " + a + ", " + b, bare.miles(a, b), apart(a, b));
-            due("25 walled " + a + ", " + b, walled.miles(a, b), a == b ? 0 : -1);
-            due("25 snake " + a + ", " + b, snake.miles(a, b), Math.abs(along(a) - along(b)));
+        for (int a = 0; a < 25; a++) {
+            ThumbHedges bare = new ThumbHedges();
+            ThumbHedges walled = Lands.walled();
+            ThumbHedges snake = Lands.snake();
+            for (int b = 0; b < 25; b++) {
+                due("25 open land " + a + ", " + b, bare.miles(a, b), apart(a, b));
+                due("25 walled " + a + ", " + b, walled.miles(a, b), a == b ? 0 : -1);
+                due("25 snake " + a + ", " + b, snake.miles(a, b), Math.abs(along(a) - along(b)));
+            }
         }
     }
 
@@ -97,9 +97,9 @@ final class EdgesWays {
 
     /** Each way leads there, in as many steps as there are MILES, and none of them is barred. */
     static void promise26LeadsThere() {
-        ThumbHedges x = Lands.pressed(0x12345, 0x0A4C6);
         int[] more = {-5, 1, 5, -1};
         for (int i = 0; i < 625; i++) {
+            ThumbHedges x = Lands.pressed(0x12345, 0x0A4C6);
             int at = i / 25;
             int miles = x.miles(at, i % 25);
             for (int k = 0; k < miles; k++) {
@@ -139,6 +139,22 @@ final class EdgesWays {
         due("27 four walls", y.cuts(20, 4), 4);
         due("27 in a column", y.cuts(0, 20), 0);
         due("27 the next column", y.cuts(0, 21), 1);
+    }
+
+    /** All pairs: of walls as many as they are apart, of columns and of rows as many as lie between. */
+    static void promise27AllPairs() {
+        for (int a = 0; a < 25; a++) {
+            ThumbHedges walled = Lands.walled();
+            ThumbHedges columns = Lands.pressed(Edge.FULL, 0);
+            ThumbHedges rows = Lands.pressed(0, Edge.FULL);
+            ThumbHedges bare = new ThumbHedges();
+            for (int b = 0; b < 25; b++) {
+                due("27 walls " + a + ", " + b, walled.cuts(a, b), apart(a, b));
+                due("27 columns " + a + ", " + b, columns.cuts(a, b), Math.abs(a % 5 - b % 5));
+                due("27 rows " + a + ", " + b, rows.cuts(a, b), Math.abs(a / 5 - b / 5));
+                due("27 open land " + a + ", " + b, bare.cuts(a, b), 0);
+            }
+        }
     }
 
     /** "NONE for others." */
@@ -221,6 +237,16 @@ final class EdgesWays {
         due("34 round both ways", x.paths(0, 6), 2);
         due("34 beside, and round", x.paths(0, 1), 2);
         due("34 no way", x.paths(0, 2), 0);
+    }
+
+    /** From a CELL with all four WAYS open, and to one; as many there as back. */
+    static void promise34FromTheMiddle() {
+        ThumbHedges x = new ThumbHedges();
+        due("34 from the middle", x.paths(12, 0), 6762);
+        due("34 to the middle", x.paths(0, 12), 6762);
+        due("34 to another corner", x.paths(12, 24), 6762);
+        due("34 beside the middle", x.paths(12, 7), 3411);
+        due("34 beside the middle", x.paths(7, 12), 3411);
     }
 
     /** "NONE .. for others": COWS that are told alone. */

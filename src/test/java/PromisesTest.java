@@ -965,12 +965,6 @@ public final class PromisesTest {
         x.hand(FULL, FULL);
         x.press(0, 0);
         due("27 all", x.cuts(0, 24), 8);
-        for (int i = 0; i < 625; i++) {
-            int a = i / 25;
-            int b = i % 25;
-            int apart = Math.abs(a / 5 - b / 5) + Math.abs(a % 5 - b % 5);
-            due("27 cuts(" + a + ", " + b + ") of all", x.cuts(a, b), apart);
-        }
         due("29 none", x.wide(), 0);
         due("28 itself", x.farthest(24), 24);
         due("34 none", x.paths(0, 1), 0);
@@ -1271,13 +1265,16 @@ public final class PromisesTest {
     private static int lookDue(ThumbHedges x, int err) {
         int best = -1;
         int fewest = 99;
+        long land = x.is(2) | (long) x.is(3) << 20;
+        long[] turned = new long[8 * x.about(0)];
+        for (int i = 0; i < turned.length; i++) {
+            turned[i] = x.turned(i / 8, i % 8, false) | (long) x.turned(i / 8, i % 8, true) << 20;
+        }
         for (int hedge = 0; hedge < 40; hedge++) {
             int[] left = new int[2];
-            for (int i = 0; i < 8 * x.about(0); i++) {
-                int east = x.turned(i / 8, i % 8, false);
-                int south = x.turned(i / 8, i % 8, true);
-                if (Integer.bitCount(east ^ x.is(2)) + Integer.bitCount(south ^ x.is(3)) <= err) {
-                    left[(hedge < 20 ? east >> hedge : south >> hedge - 20) & 1]++;
+            for (long one : turned) {
+                if (Long.bitCount(one ^ land) <= err) {
+                    left[(int) (one >> hedge & 1)]++;
                 }
             }
             if (left[0] + left[1] < 2) {
