@@ -20,7 +20,6 @@ final class EdgesShapes {
         due("30 five columns", Lands.pressed(Edge.FULL, 0).regions(false), 5);
         due("30 five CELLS", Lands.pressed(Edge.FULL, 0).regions(true), 5);
         due("30 five rows", Lands.pressed(0, Edge.FULL).regions(false), 5);
-        Edge.refused("30 changes nothing", Lands::ordinary, x -> 0 * x.regions(true) + x.regions(false), 1);
     }
 
     /** Each HEDGE that is CUT of all joins two; the greatest need not be the first. */
@@ -163,7 +162,6 @@ final class EdgesShapes {
         due("37 15 MILES", x.gates(15, false), 1 << 5);
         due("37 14 MILES", x.gates(14, false), 1 << 10);
         due("37 13 MILES: CELL 12 is none of the rim", x.gates(13, true), 2);
-        Edge.refused("37 changes nothing", Lands::ordinary, y -> 0 * y.gates(3, true), 0);
     }
 
     /** GATES that are told are nothing to it. */
@@ -196,6 +194,5 @@ final class EdgesShapes {
         due("47 of three with two around", x.thickest(), 0);
         x.plant(34);
         due("47 three around", x.thickest(), 19);
-        Edge.refused("47 changes nothing", Lands::ordinary, y -> 0 * y.thickest(), 0);
     }
 }

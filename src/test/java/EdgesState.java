@@ -205,8 +205,6 @@ final class EdgesState {
 
     /** Nothing is otherwise by it, though COWS come home and HEDGES freeze in what is foretold. */
     static void promise24ChangesNothing() {
-        Edge.refused("24 foretold", Lands::ordinary, x -> 0 * x.foretold(60, 0) + 0 * x.foretold(60, 1), 0);
-        Edge.refused("24 foretold", Lands::full, x -> 0 * x.foretold(60, 4), 0);
         ThumbHedges x = Lands.ordinary();
         for (int n = 1; n <= 60; n++) {
             int first = x.foretold(n, 0);

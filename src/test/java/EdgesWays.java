@@ -208,7 +208,6 @@ final class EdgesWays {
         due("29 the snake without its head", y.wide(), 23);
         y.plant(10);
         due("29 each half", y.wide(), 11);
-        Edge.refused("29 changes nothing", Lands::ordinary, z -> 0 * z.wide(), 0);
     }
 
     /** "NONE for others." */
@@ -346,7 +345,6 @@ final class EdgesWays {
         x.gate(24, true);
         due("35 all along", x.walk(0, false), 24);
         due("35 it stays", x.of(0, 0), 0);
-        Edge.refused("35 changes nothing", Lands::ordinary, y -> 0 * y.walk(0, false) + 0 * y.walk(1, true), 0);
     }
 
     /** "NONE for others (0 .. 99)." */
