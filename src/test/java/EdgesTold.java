@@ -133,6 +133,26 @@ final class EdgesTold {
         due("3 none again: a first", x.cow(1, 1), 0);
     }
 
+    /** A COW that is told leaves the others as they are: home, or where they are; up to the fifth, and by a sixth. */
+    static void promise03TheOthersStay() {
+        ThumbHedges x = new ThumbHedges();
+        x.gate(0, true);
+        x.cow(1, 2);
+        x.go(0, 3);
+        x.cow(12, 1);
+        x.go(1, 2);
+        for (int i = 2; i < 6; i++) {
+            due("3 one more", x.cow(1, i % 4), i < 5 ? i : -1);
+            due("3 the first is home", x.of(0, 0), -1);
+            due("3 its WAY", x.of(0, 1), 3);
+            due("3 the second isn't", x.of(1, 0), 17);
+            due("3 its WAY", x.of(1, 1), 2);
+            due("3 home(0)", x.home(0), 1);
+        }
+        due("3 the fifth goes home", x.go(4, 3), 0);
+        due("3 both are", x.home(0), 1 | 16);
+    }
+
     private static boolean isRim(int cell) {
         return cell / 5 == 0 || cell / 5 == 4 || cell % 5 == 0 || cell % 5 == 4;
     }
