@@ -44,8 +44,9 @@ public final class RulesTest extends TreePathScanner<Void, Void> {
     /** Divisors that no constant tells: how many HANDS and COWS there are, and a law's own; each is looked at first. */
     private static final Set<String> DIVIDING = Set.of("befall", "ofTwo");
     private static final int DEEPEST = 8;
-    /** The methods that read a law; with 9 levels of it that is far below the 300 calls that may stand open. */
-    private static final int MOST_RECURSIVE = 9;
+    /** A law is 9 levels deep at most, a path 25, gates 4: each of these has a guard on that. */
+    private static final Set<String> RECURSIVE = Set.of("Reader.sum", "Reader.product", "Reader.one", "Reader.nested",
+            "Reader.inside", "Reader.choice", "Reader.either", "Reader.both", "Reader.ask", "Maze.pathsOn", "Maze.lowestCover");
 
     private final Trees trees;
     private final Map<String, Set<String>> calls = new TreeMap<>();
@@ -206,8 +207,7 @@ public final class RulesTest extends TreePathScanner<Void, Void> {
     /** Methods that call one another count once, as a level does that goes through several of them. */
     private void callsGoDeep() {
         for (String from : new ArrayList<>(calls.keySet())) {
-            Set<String> circle = circle(from);
-            Check.due("rule 8: " + circle + " call one another", circle.size() <= MOST_RECURSIVE, true);
+            Check.due("rule 8: " + from + " comes to itself", reached(from).contains(from), RECURSIVE.contains(from));
             int deep = depth(from, new HashSet<>());
             Check.due("rule 11: calls from " + from + " go " + deep + " deep", deep <= DEEPEST, true);
         }
